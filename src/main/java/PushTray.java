@@ -780,10 +780,6 @@ public final class PushTray {
         /** What is seen tells but which sorts are left, so these alone are held. */
         private final int[] sorts = new int[TILES];
 
-        Standing() {
-            Arrays.fill(sorts, ALL_SORTS);
-        }
-
         void start(int lay, int goal, int kinds) {
             this.lay = lay;
             this.goal = goal;

@@ -36,6 +36,7 @@ final class CostsTest {
     private static void least() {
         leastIs("01.234;ttttt;01.234", 0, -1, 0);
         leastIs("01.234;ttttt;0.1234", 1, 1, 1);
+        leastIs("0123.4;ttttt;01234.", 1, 4, 1);
         leastIs("01.234;ttttt;01423.", 1, 4, 1);
         // Both ways round cost six: tile 0 is less than tile 2, which is in a lesser cell.
         leastIs(RING + HALF_ROUND, 6, 0, 6);
@@ -67,6 +68,8 @@ final class CostsTest {
     }
 
     private static void reach() {
+        // The first search of all, from the lay and with the kinds that have the number 0.
+        reachIs("01234.;ttttt;01234.", 360, 21);
         reachIs("01.234;nnnnn;01.234", 1, 0);
         reachIs("01.234;ttttt;01.234", 360, 21);
         reachIs(RING + HALF_ROUND, 12, 6);

@@ -12,6 +12,7 @@ final class WholeTest {
         countRefused();
         digestOfNone();
         digestOfTray();
+        digestOfPushes();
         Check.end();
     }
 
@@ -134,6 +135,20 @@ final class WholeTest {
         x.letter('a');
         x.letter('~');
         Check.due("digest() with letters", x.digest(), mixed('a', '~', -1, -1, 0, 0, 0, 0, 0, 2, 0, 0));
+    }
+
+    /** Tile 4 goes to and fro between cells 4 and 5: behind three pushes it is back in cell 4. */
+    private static void digestOfPushes() {
+        PushTray x = Check.tray("0123.4;nnnno;01234.");
+        Check.due("digest() with pushes", x.digest(), mixed(
+            2, 0, 0, -1, 31, 0, 0, 0, 0, 1,
+            2, 1, 1, -1, 31, 0, 0, -1, 0, 1,
+            2, 2, 2, -1, 31, 0, 0, -1, 0, 1,
+            2, 3, 3, -1, 31, 0, 0, -1, 0, 1,
+            4, 5, 4, 3, 31, 0, 3, -1, 1, 1,
+            0, 0, 0, 1, 1, 1, 2, 2, 0, 3, 3, 1, -1, 4, 0, 4, -1, 1,
+            3, 4, 1, 2, 3, 1,
+            4, 5, 0, 0, 1, 4, 0, 0, 1, 0));
     }
 
     private static void digestOfTray() {
