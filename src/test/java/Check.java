@@ -1,5 +1,3 @@
-import java.util.function.LongSupplier;
-
 /** What every test here uses: an answer against the one that is due, and trays written letter by letter. */
 final class Check {
     private static final int SHOWN = 40;
@@ -20,13 +18,6 @@ final class Check {
 
     static void isTrue(String what, boolean holds) {
         due(what, holds ? 1 : 0, 1);
-    }
-
-    /** A refusal gives its number and changes nothing that the digest tells. */
-    static void refused(PushTray x, String call, LongSupplier answer, long want) {
-        long before = x.digest();
-        due(call, answer.getAsLong(), want);
-        due(call + " leaves all as it was", x.digest(), before);
     }
 
     static void write(PushTray x, String text) {

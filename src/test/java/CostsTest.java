@@ -16,10 +16,8 @@ final class CostsTest {
         swaps();
         cheap();
         cheapNone();
-        cheapIsCounted();
         odds();
         oddsWithoutChoice();
-        refused();
         Check.end();
     }
 
@@ -139,28 +137,6 @@ final class CostsTest {
         cheapIs("01.234;nnnnn;01.234", -1, -1);
     }
 
-    private static void cheapIsCounted() {
-        PushTray x = Check.tray("01.234;ttttt;10.234");
-        x.image();
-        for (int done = 0; done < 10; done++) {
-            Check.due("cheap(0)", x.cheap(0), 1);
-        }
-        Check.refused(x, "cheap(2)", () -> x.cheap(2), PushTray.OUTSIDE);
-        Check.refused(x, "cheap(-1)", () -> x.cheap(-1), PushTray.OUTSIDE);
-        x.restore();
-        Check.write(x, "01.234;nnnnn;01.234");
-        x.tray();
-        for (int done = 10; done < 20; done++) {
-            Check.due("cheap(1)", x.cheap(1), -1);
-        }
-        Check.refused(x, "cheap() for the 21st time", () -> x.cheap(1), PushTray.STATE);
-        Check.refused(x, "cheap(2) for the 21st time", () -> x.cheap(2), PushTray.OUTSIDE);
-        Check.due("cheaps done", x.count(9), 20);
-        PushTray none = new PushTray();
-        Check.refused(none, "cheap() without a tray", () -> none.cheap(0), PushTray.STATE);
-        Check.refused(none, "cheap(2) without a tray", () -> none.cheap(2), PushTray.OUTSIDE);
-    }
-
     private static void oddsAre(PushTray x, int tile, int cell, int pushes, int above, int below) {
         String call = "odds(" + tile + ", " + cell + ", " + pushes + ", ";
         Check.due(call + "0)", x.odds(tile, cell, pushes, 0), above);
@@ -194,32 +170,5 @@ final class CostsTest {
         oddsAre(one, 1, 2, 1, 1, 1);
         oddsAre(one, 1, 2, 2, 0, 1);
         oddsAre(one, 1, 2, 5, 1, 1);
-    }
-
-    private static void refused() {
-        PushTray x = Check.tray("01.234;thnso;0123.4");
-        PushTray none = new PushTray();
-        int[] outside = {-1, 3, Integer.MIN_VALUE, Integer.MAX_VALUE};
-        for (int what : outside) {
-            Check.refused(x, "least(" + what + ")", () -> x.least(what), PushTray.OUTSIDE);
-            Check.refused(x, "reach(" + what + ")", () -> x.reach(what), PushTray.OUTSIDE);
-            Check.refused(none, "least(" + what + ") without a tray", () -> none.least(what), PushTray.OUTSIDE);
-            Check.refused(none, "reach(" + what + ") without a tray", () -> none.reach(what), PushTray.OUTSIDE);
-            Check.refused(x, "odds(0, 0, 1, " + what + ")", () -> x.odds(0, 0, 1, what), PushTray.OUTSIDE);
-            Check.refused(x, "home(" + what + ", 6)", () -> x.home(what, 6), PushTray.UNKNOWN);
-        }
-        Check.refused(x, "reach(2)", () -> x.reach(2), PushTray.OUTSIDE);
-        Check.refused(x, "home(5, 0)", () -> x.home(5, 0), PushTray.UNKNOWN);
-        Check.refused(x, "home(-1, 0)", () -> x.home(-1, 0), PushTray.UNKNOWN);
-        Check.refused(x, "home(0, 6)", () -> x.home(0, 6), PushTray.UNKNOWN);
-        Check.refused(x, "home(0, -1)", () -> x.home(0, -1), PushTray.UNKNOWN);
-        Check.refused(x, "odds(5, 0, 7, 2)", () -> x.odds(5, 0, 7, 2), PushTray.UNKNOWN);
-        Check.refused(x, "odds(0, 6, 0, 0)", () -> x.odds(0, 6, 0, 0), PushTray.UNKNOWN);
-        Check.refused(x, "odds(0, -1, 1, 0)", () -> x.odds(0, -1, 1, 0), PushTray.UNKNOWN);
-        Check.refused(x, "odds(-1, 0, 1, 0)", () -> x.odds(-1, 0, 1, 0), PushTray.UNKNOWN);
-        Check.refused(x, "odds(0, 0, 0, 0)", () -> x.odds(0, 0, 0, 0), PushTray.OUTSIDE);
-        Check.refused(x, "odds(0, 0, 7, 0)", () -> x.odds(0, 0, 7, 0), PushTray.OUTSIDE);
-        Check.refused(x, "odds(0, 0, 1, 2)", () -> x.odds(0, 0, 1, 2), PushTray.OUTSIDE);
-        Check.refused(none, "odds(0, 0, 9, 9) without a tray", () -> none.odds(0, 0, 9, 9), PushTray.UNKNOWN);
     }
 }

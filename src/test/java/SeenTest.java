@@ -9,11 +9,9 @@ final class SeenTest {
         see();
         seeOfEachTile();
         ways();
-        seeRefused();
         forget();
         runs();
         runsOfLikeNumbers();
-        runsRefused();
         Check.end();
     }
 
@@ -62,23 +60,6 @@ final class SeenTest {
         Check.due("way of none", x.tile(2, 5), PushTray.NONE);
     }
 
-    private static void seeRefused() {
-        PushTray x = Check.tray("01.234;thnso;01.234");
-        Check.refused(x, "see(5, 2, 4)", () -> x.see(5, 2, 4), PushTray.UNKNOWN);
-        Check.refused(x, "see(-1, 0, 0)", () -> x.see(-1, 0, 0), PushTray.UNKNOWN);
-        Check.refused(x, "see(0, 2, 0)", () -> x.see(0, 2, 0), PushTray.OUTSIDE);
-        Check.refused(x, "see(0, -1, 0)", () -> x.see(0, -1, 0), PushTray.OUTSIDE);
-        Check.refused(x, "see(0, 0, 4)", () -> x.see(0, 0, 4), PushTray.OUTSIDE);
-        Check.refused(x, "see(0, 0, -1)", () -> x.see(0, 0, -1), PushTray.OUTSIDE);
-        for (int many = 1; many <= 6; many++) {
-            Check.due("see " + many, x.see(3, 0, 1), many);
-        }
-        Check.refused(x, "see 7", () -> x.see(3, 0, 1), PushTray.FULL);
-        Check.refused(x, "see 7, of another tile", () -> x.see(0, 0, 3), PushTray.FULL);
-        Check.refused(x, "see(0, 0, 4) when all is full", () -> x.see(0, 0, 4), PushTray.OUTSIDE);
-        Check.refused(x, "see(5, 0, 0) when all is full", () -> x.see(5, 0, 0), PushTray.UNKNOWN);
-    }
-
     private static void forget() {
         PushTray x = Check.tray("01.234;thnso;01.234");
         x.see(0, 0, 2);
@@ -125,18 +106,5 @@ final class SeenTest {
             seed = (1103515245L * seed + 12345L) & 0x7fffffffL;
         }
         runsAre(one, 60, Integer.MAX_VALUE, 120, 6, (int) seed);
-    }
-
-    private static void runsRefused() {
-        PushTray x = Check.tray("01.234;thnso;01.234");
-        PushTray none = new PushTray();
-        int[][] outside = {{0, 1, 0}, {61, 1, 0}, {-1, 1, 0}, {1, -1, 0}, {1, Integer.MIN_VALUE, 0}, {1, 1, -1},
-            {1, 1, 3}, {Integer.MAX_VALUE, 1, 0}};
-        for (int[] a : outside) {
-            String call = "runs(" + a[0] + ", " + a[1] + ", " + a[2] + ")";
-            Check.refused(x, call, () -> x.runs(a[0], a[1], a[2]), PushTray.OUTSIDE);
-            Check.refused(none, call + " without a tray", () -> none.runs(a[0], a[1], a[2]), PushTray.OUTSIDE);
-        }
-        Check.refused(none, "runs(1, 1, 0) without a tray", () -> none.runs(1, 1, 0), PushTray.STATE);
     }
 }

@@ -6,10 +6,8 @@ final class TilesTest {
     public static void main(String[] args) {
         tile();
         tileCosts();
-        tileRefused();
         as();
         cell();
-        cellRefused();
         Check.end();
     }
 
@@ -67,21 +65,6 @@ final class TilesTest {
         answers("price round cell 3, to which cell 2 is not next", tiles(lower, 3), new int[] {-1, -1, 1, 1, -1});
     }
 
-    private static void tileRefused() {
-        PushTray x = Check.tray("01.234;thnso;01.234");
-        int[] none = {-1, 5, Integer.MIN_VALUE, Integer.MAX_VALUE};
-        for (int tile : none) {
-            for (int what = -1; what <= 7; what++) {
-                int asked = what;
-                Check.refused(x, "tile(" + tile + ", " + what + ")", () -> x.tile(tile, asked), PushTray.UNKNOWN);
-            }
-        }
-        int[] outside = {-1, 7, Integer.MIN_VALUE, Integer.MAX_VALUE};
-        for (int what : outside) {
-            Check.refused(x, "tile(4, " + what + ")", () -> x.tile(4, what), PushTray.OUTSIDE);
-        }
-    }
-
     private static void as() {
         PushTray x = Check.tray("01.234;thnso;01.234");
         int[][] is = {
@@ -96,10 +79,6 @@ final class TilesTest {
                 Check.due("as(" + tile + ", " + kind + ")", x.as(tile, kind), is[tile][kind] == 1 ? tile : PushTray.NONE);
             }
         }
-        Check.refused(x, "as(5, 5)", () -> x.as(5, 5), PushTray.UNKNOWN);
-        Check.refused(x, "as(-1, 0)", () -> x.as(-1, 0), PushTray.UNKNOWN);
-        Check.refused(x, "as(0, 5)", () -> x.as(0, 5), PushTray.OUTSIDE);
-        Check.refused(x, "as(0, -1)", () -> x.as(0, -1), PushTray.OUTSIDE);
         x.recast(0, 4);
         Check.due("as(0, 1) of a stone", x.as(0, 1), 0);
     }
@@ -120,16 +99,5 @@ final class TilesTest {
             Check.liesAs("cell", x, 0, lies[free]);
             answers("in the goal", cells(x, 1), new int[] {4, -1, 3, 2, 1, 0});
         }
-    }
-
-    private static void cellRefused() {
-        PushTray x = Check.tray("01.234;thnso;01.234");
-        int[] none = {-1, 6, Integer.MIN_VALUE, Integer.MAX_VALUE};
-        for (int cell : none) {
-            Check.refused(x, "cell(" + cell + ", 0)", () -> x.cell(cell, 0), PushTray.UNKNOWN);
-            Check.refused(x, "cell(" + cell + ", 3)", () -> x.cell(cell, 3), PushTray.UNKNOWN);
-        }
-        Check.refused(x, "cell(5, 3)", () -> x.cell(5, 3), PushTray.OUTSIDE);
-        Check.refused(x, "cell(0, -1)", () -> x.cell(0, -1), PushTray.OUTSIDE);
     }
 }

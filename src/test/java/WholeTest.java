@@ -6,10 +6,7 @@ final class WholeTest {
     public static void main(String[] args) {
         imageAndRestore();
         restoreOftener();
-        latestImage();
-        restoreRefused();
         count();
-        countRefused();
         digestOfNone();
         digestOfTray();
         digestOfPushes();
@@ -58,35 +55,6 @@ final class WholeTest {
         }
     }
 
-    private static void latestImage() {
-        PushTray x = Check.tray("01.234;ttttt;01.234");
-        x.image();
-        x.push(4);
-        x.push(3);
-        Check.due("image() then", x.image(), 2);
-        x.push(3);
-        Check.due("restore()", x.restore(), 2);
-        Check.liesAs("restore()", x, 0, "0142.3");
-    }
-
-    private static void restoreRefused() {
-        PushTray none = new PushTray();
-        Check.refused(none, "image() without a tray", none::image, PushTray.STATE);
-        Check.refused(none, "restore() without a tray", none::restore, PushTray.STATE);
-        PushTray x = Check.tray("01.234;ttttt;01.234");
-        Check.refused(x, "restore() of no image", x::restore, PushTray.STATE);
-        x.image();
-        x.push(4);
-        Check.write(x, "01.234;ttttt;01.23");
-        Check.due("a tray that is none", x.tray(), PushTray.STATE);
-        Check.due("restore() behind it", x.restore(), 0);
-        x.letter('4');
-        Check.due("the same tray", x.tray(), 2);
-        Check.refused(x, "restore() behind the same tray", x::restore, PushTray.STATE);
-        Check.due("image() then", x.image(), 0);
-        Check.due("restore() then", x.restore(), 0);
-    }
-
     private static void counts(String call, PushTray x, int... want) {
         for (int what = 0; what < want.length; what++) {
             Check.due(call + ": count(" + what + ")", x.count(what), want[what]);
@@ -109,16 +77,6 @@ final class WholeTest {
         Check.due("middle, shy ones", Check.tray("0.1234;sssss;0.1234").count(4), 2);
         Check.due("middle, nailed ones", Check.tray("0.1234;nnnnn;0.1234").count(4), 0);
         Check.due("no cell alike", Check.tray("0.1234;nnnnn;.14320").count(5), 0);
-    }
-
-    private static void countRefused() {
-        int[] outside = {-1, 10, Integer.MIN_VALUE, Integer.MAX_VALUE};
-        for (int what : outside) {
-            PushTray x = Check.tray("01.234;thnso;01423.");
-            PushTray none = new PushTray();
-            Check.refused(x, "count(" + what + ")", () -> x.count(what), PushTray.OUTSIDE);
-            Check.refused(none, "count(" + what + ") without a tray", () -> none.count(what), PushTray.OUTSIDE);
-        }
     }
 
     private static long mixed(long... numbers) {
