@@ -19,10 +19,12 @@ final class EdgeCostsTest {
         cheapRefused();
         cheapTwentyTimesEver();
         cheapOfEachPair();
+        cheapOfLikeOnes();
         cheapOfNone();
         oddsUnknown();
         oddsOutside();
         oddsOfNoChoice();
+        oddsOfTheFirstAndTheLast();
         oddsInLowestTerms();
         Check.end();
     }
@@ -250,6 +252,18 @@ final class EdgeCostsTest {
         }
     }
 
+    /** "of like ones the least": of two, where all lies as in the goal, and of three round the middle; none is dearer. */
+    private static void cheapOfLikeOnes() {
+        String[] texts = {"01.234;ttttt;01.234", "0.1234;ooooo;0.1234", ".01234;ttttt;.01234", "01234.;hhhhh;01234."};
+        int[] which = {12, 1, 1, 25};
+        int[] cost = {1, 3, 1, 2};
+        for (int i = 0; i < texts.length; i++) {
+            PushTray x = Check.tray(texts[i]);
+            Check.due("cheap(0) of " + texts[i], x.cheap(0), which[i]);
+            Check.due("cheap(1) of " + texts[i], x.cheap(1), cost[i]);
+        }
+    }
+
     private static void cheapOfNone() {
         PushTray x = Check.tray("01.234;nnnnn;01.234");
         Check.due("cheap(0), when all lies as in the goal and nothing goes", x.cheap(0), PushTray.NONE);
@@ -306,6 +320,24 @@ final class EdgeCostsTest {
             oddsAre(one, 4, 5, pushes, 1 - pushes % 2, 1);
             oddsAre(one, 0, 0, pushes, 1, 1);
             oddsAre(one, 0, 4, pushes, 0, 1);
+        }
+    }
+
+    /** The signs in their order, and against it: the first and the last of all ways to lie. */
+    private static void oddsOfTheFirstAndTheLast() {
+        String[] texts = {"01234.;nnnnt;01234.", ".43210;nnnnt;.43210"};
+        int[][] cells = {{4, 5}, {1, 0}};
+        for (int i = 0; i < texts.length; i++) {
+            PushTray x = Check.tray(texts[i]);
+            for (int pushes = 1; pushes <= 6; pushes++) {
+                oddsAre(x, 4, cells[i][0], pushes, 1 - pushes % 2, 1);
+                oddsAre(x, 4, cells[i][1], pushes, pushes % 2, 1);
+            }
+            x.push(4);
+            for (int pushes = 6; pushes >= 1; pushes--) {
+                oddsAre(x, 4, cells[i][0], pushes, pushes % 2, 1);
+                oddsAre(x, 4, cells[i][1], pushes, 1 - pushes % 2, 1);
+            }
         }
     }
 

@@ -89,9 +89,14 @@ final class EdgeTilesTest {
             Check.due("way when it cost " + one[1], y.tile(4, 5), 0);
             Check.due("sorts of another tile", y.tile(3, 4), 31);
         }
+        PushTray within = Check.tray(Edges.TEXT);
+        within.see(4, 0, 1);
+        Check.due("sorts when it cost 1 within its row", within.tile(4, 4), 1 | 8);
+        Check.due("way when row to row alone parts them", within.tile(4, 5), 1);
         PushTray shy = Check.tray(Edges.TEXT);
         shy.see(0, 1, 0);
         Check.due("sorts when it did not go from row to row", shy.tile(0, 4), 4 | 8);
+        Check.due("way when its row alone parts them", shy.tile(0, 5), 0);
         shy.see(0, 0, 1);
         Check.due("sorts when it went within its row, too", shy.tile(0, 4), 8);
         Check.due("way then", shy.tile(0, 5), 0);

@@ -70,6 +70,8 @@ final class EdgeWholeTest {
     private static void restoreBehindNoTray() {
         PushTray x = Check.tray(Edges.TEXT);
         x.push(4);
+        x.see(0, 0, 1);
+        x.see(4, 0, 3);
         x.image();
         long before = x.digest();
         Check.write(x, Edges.TEXT + ";");
@@ -89,6 +91,8 @@ final class EdgeWholeTest {
         x.runs(60, 1, 0);
         Check.due("restore()", x.restore(), 1);
         Check.due("digest() behind restore()", x.digest(), before);
+        Check.due("sorts of tile 0 in the image", x.tile(0, 4), 1 | 8);
+        Check.due("sorts of tile 4 in the image", x.tile(4, 4), 16);
         x.see(1, 1, 1);
         x.forget();
         x.push(4);
