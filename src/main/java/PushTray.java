@@ -843,7 +843,7 @@ public final class PushTray {
                 // What is found meanwhile costs more, so it waits for its own turn.
                 int known = size;
                 for (int i = 0; i < known; i++) {
-                    if (costs[found[i]] == cost) {
+                    if (costOf(found[i]) == cost) {
                         noteNeighbours(found[i], cost);
                     }
                 }
@@ -884,7 +884,7 @@ public final class PushTray {
         int farthest() {
             int farthest = 0;
             for (int i = 0; i < size; i++) {
-                farthest = Math.max(farthest, costs[found[i]]);
+                farthest = Math.max(farthest, costOf(found[i]));
             }
             return farthest;
         }
@@ -892,7 +892,7 @@ public final class PushTray {
         int leastWith(int sign, int cell) {
             int least = NONE;
             for (int i = 0; i < size; i++) {
-                int cost = costs[found[i]];
+                int cost = costOf(found[i]);
                 if (lays.place(found[i], sign) == cell && (least == NONE || cost < least)) {
                     least = cost;
                 }

@@ -1,9 +1,29 @@
 /** What every test here uses: an answer against the one that is due, and trays written letter by letter. */
 final class Check {
     private static final int SHOWN = 40;
+    private static final long MOST_MILLISECONDS = 600_000;
     private static int wrong = 0;
 
+    static {
+        watch();
+    }
+
     private Check() {
+    }
+
+    /** A call that never ends is a fault, too, and no test may wait for it for ever. */
+    private static void watch() {
+        Thread watcher = new Thread(() -> {
+            try {
+                Thread.sleep(MOST_MILLISECONDS);
+            } catch (InterruptedException e) {
+                return;
+            }
+            System.out.println("a call does not end");
+            Runtime.getRuntime().halt(1);
+        });
+        watcher.setDaemon(true);
+        watcher.start();
     }
 
     static void due(String call, long got, long want) {

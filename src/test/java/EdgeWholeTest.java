@@ -85,7 +85,7 @@ final class EdgeWholeTest {
         for (int tile = 0; tile < 5; tile++) {
             x.recast(tile, 4 - tile);
         }
-        while (x.count(6) < 6) {
+        for (int seen = 2; seen < 6; seen++) {
             x.see(0, 0, 0);
         }
         x.runs(60, 1, 0);

@@ -66,12 +66,13 @@ final class Edges {
         Check.write(x, "ab");
     }
 
+    /** On top of what a used one has: one call of cheap() and two of see(). */
     private static void fill(PushTray x) {
         use(x);
-        while (x.count(9) < 20) {
+        for (int done = 1; done < 20; done++) {
             x.cheap(0);
         }
-        while (x.count(6) < 6) {
+        for (int seen = 2; seen < 6; seen++) {
             x.see(3, 0, 1);
         }
         x.blank();
@@ -82,10 +83,22 @@ final class Edges {
     static void refused(String call, ToIntFunction<PushTray> asked, int want, Made... objects) {
         for (Made made : objects) {
             PushTray x = made.make();
-            String told = call + " of " + made;
-            Check.due(told, asked.applyAsInt(x), want);
-            Check.isTrue(told + " changes nothing", look(x).equals(LOOKS.computeIfAbsent(made, m -> look(m.make()))));
+            Check.due(call + " of " + made, asked.applyAsInt(x), want);
+            isLeft(call + " of " + made, x, made);
         }
+    }
+
+    /** A call that leaves all as it was, whatever it answers. */
+    static void leavesAll(String call, ToIntFunction<PushTray> asked) {
+        for (Made made : ALL) {
+            PushTray x = made.make();
+            asked.applyAsInt(x);
+            isLeft(call + " of " + made, x, made);
+        }
+    }
+
+    private static void isLeft(String call, PushTray x, Made made) {
+        Check.isTrue(call + " changes nothing", look(x).equals(LOOKS.computeIfAbsent(made, m -> look(m.make()))));
     }
 
     /** All that can be asked; then all behind the image, and whether what is on the page is read. */
